@@ -513,7 +513,10 @@ public final class BitDrive {
 
         /** Moves all bits on by n places; old is a row at least as long as the ring's. */
         void rotate(int n, int[] old) {
-            int size = Math.min(row.length, old.length);
+            int size = row.length;
+            if (old.length < size) {
+                return;
+            }
             int places = Math.floorMod(n, bits);
             int from = size - places / 8;
             int shift = places % 8;

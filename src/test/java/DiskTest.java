@@ -43,16 +43,20 @@ public final class DiskTest {
         Check.due("checksum is NO CODE", x.read(1, 0), 20);
         x.poke(1, 7, 0xE5);
         Check.due("read", x.read(1, 0), 0);
-        int id = x.poke(1, 11, 0);
-        Check.due("ID is NO CODE", x.read(1, 0), 20);
-        x.poke(1, 11, id);
-        Check.due("read", x.read(1, 0), 0);
+        // The header's bytes are of ten bits each from bit 40 on: each half in turn is NO CODE.
+        for (int half = 0; half < 12; half++) {
+            BitDrive y = formatted();
+            y.turn(1, -40 - 5 * half);
+            y.poke(1, 0, y.peek(1, 0) & 7);
+            Check.due("half " + half + " is NO CODE", y.read(1, 0), 20);
+            Check.due("half " + half + " is NO CODE", y.write(1, 0), 20);
+        }
         for (int i = 0; i < 1060; i++) {
             x.poke(1, i, 255);
         }
         Check.due("ones alone", x.read(1, 0), 21);
         Check.due("ones alone", x.write(1, 0), 21);
-        Check.due("count", x.count(2), 10);
+        Check.due("count", x.count(2), 9);
     }
 
     private static void headerThatIsFirst() {
@@ -71,6 +75,12 @@ public final class DiskTest {
     }
 
     private static void dataErrors() {
+        for (int half = 0; half < 132; half++) {
+            BitDrive y = formatted();
+            y.turn(1, -188 - 5 * half);
+            y.poke(1, 0, y.peek(1, 0) & 7);
+            Check.due("half " + half + " is NO CODE", y.read(1, 0), half < 2 ? 22 : 24);
+        }
         BitDrive x = formatted();
         int first = x.poke(1, 24, 0);
         Check.due("no mark", x.read(1, 0), 22);
@@ -102,6 +112,10 @@ public final class DiskTest {
         BitDrive x = formatted();
         Model model = new Model();
         model.format(5, 3, 4);
+        for (int i : new int[] {17, 18, 19, 60, 105, 106, 107}) {
+            x.poke(1, i, 0);
+            model.poke(1, i, 0);
+        }
         for (int turn : new int[] {0, 13, 8480 - 900, 400, 77, -5000}) {
             x.turn(1, turn);
             model.turn(1, turn);
@@ -211,6 +225,42 @@ public final class DiskTest {
         Check.due("scratch", x.scratch(6, 0), 1);
         Check.due("track 9 stays", Check.block(x, 9, 0)[18], 0xA0);
         Check.due("link stays", Check.block(x, 9, 1)[1], 3);
+        growsBehindHoles();
+        growsAtOnce();
+    }
+
+    private static void growsBehindHoles() {
+        BitDrive x = formatted();
+        for (int i = 1; i <= 10; i++) {
+            Check.due("save", x.save(1, i, 0), 0);
+        }
+        Check.due("scratch", x.scratch(2, 0), 1);
+        Check.due("into the hole", x.save(1, 2, 0), 0);
+        Check.due("save", x.save(1, 11, 0), 0);
+        int[] further = Check.block(x, 9, 3);
+        Check.due("link", further[0], 0);
+        Check.due("link", further[1], 0);
+        Check.due("next entry", further[14], 0);
+        Check.due("list", x.list(), 110);
+    }
+
+    private static void growsAtOnce() {
+        BitDrive x = formatted();
+        int[] full = new int[64];
+        for (int e = 2; e <= 50; e += 12) {
+            full[e] = 1;
+            full[e + 4] = e;
+        }
+        Check.putBlock(x, 9, 1, full);
+        Check.change(x, 9, 0, 18, 0x41);
+        Check.due("save", x.save(1, 1, 0), 0);
+        Check.due("the map's own block was FREE", x.list(), -1);
+        Check.change(x, 9, 0, 18, 0x40);
+        Check.putBlock(x, 9, 1, full);
+        Check.due("save", x.save(1, 1, 0), 0);
+        Check.due("link", Check.block(x, 9, 1)[0], 9);
+        Check.due("link", Check.block(x, 9, 1)[1], 6);
+        Check.due("list", x.list(), 60);
     }
 
     private static void directoryIsFull() {
@@ -273,6 +323,11 @@ public final class DiskTest {
         Check.due("save", x.save(1, 3, 0), 66);
         Check.due("scratch", x.scratch(3, 0), 66);
         Check.status(x, 66, 9, 1);
+        Check.change(x, 9, 1, 0, 16, 1, 0);
+        Check.due("sector 0 is a block", x.list(), 10);
+        Check.change(x, 16, 0, 0, 0, 1, 1);
+        Check.due("list", x.list(), -1);
+        Check.status(x, 66, 16, 0);
         Check.change(x, 9, 1, 0, 16, 1, 6);
         Check.due("save", x.save(1, 3, 0), 0);
         Check.due("list", x.list(), 20);

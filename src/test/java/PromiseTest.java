@@ -134,6 +134,10 @@ public final class PromiseTest {
         }
         formatBits(x);
         Check.due("count", x.count(1), 0);
+        Check.change(x, 9, 0, 0, 8, 35, 5, 63, 6);
+        Check.due("info", x.info(), 11);
+        Check.due("format", x.format(0xABCD1234, 0x81020304, 0x0506FF08), 0);
+        formatBits(x);
         x.poke(3, 3, 0);
         Check.due("format", x.format(7, 0, 0), 0);
         Check.due("poke is gone", x.peek(3, 3), 255);
@@ -224,6 +228,12 @@ public final class PromiseTest {
         Check.out(x);
         Check.due("load", x.load(0, 0), -1);
         Check.status(x, 62, 0, 0);
+        for (int bit = 0; bit < 32; bit += 8) {
+            Check.due("another name", x.load(-1 ^ 1 << bit, -2), -1);
+            Check.due("another name", x.load(-1, -2 ^ 1 << bit), -1);
+        }
+        Check.due("load", x.load(-1, -2), 70);
+        Check.status(x, 0, 0, 0);
     }
 
     private static void promise8Scratch() {
@@ -313,6 +323,19 @@ public final class PromiseTest {
         for (int what : new int[] {-1, 3, LOW, HIGH}) {
             Check.due("status(" + what + ")", x.status(what), -1);
         }
+        x.format(0x1234, 1, 1);
+        Check.status(x, 0, 0, 0);
+        for (int call = 0; call < 4; call++) {
+            x.load(9, 9);
+            Check.status(x, 62, 0, 0);
+            int answer = call == 0 ? x.info() : call == 1 ? x.list() : call == 2 ? x.save(1, 1, 1) : x.load(1, 1);
+            Check.due("answer", answer, call == 0 ? 11 : 0);
+            Check.status(x, 0, 0, 0);
+        }
+        Check.due("scratch", x.scratch(1, 1), 1);
+        Check.status(x, 1, 1, 0);
+        x.poke(9, 6, 0);
+        x.info();
         x.read(1, 1);
         x.read(0, 0);
         x.write(0, 0);
@@ -433,14 +456,40 @@ public final class PromiseTest {
         y.poke(2, 1059, 255);
         y.poke(2, 0, 127);
         Check.due("one bit 0", y.syncs(2), 1);
-        BitDrive z = new BitDrive();
-        Model model = new Model();
-        for (int i = 0; i < 830; i++) {
-            int v = i % 11 == 10 ? 0xFE : 255 ^ (1 << (i * 3 + 2) % 8) & (i % 11 < 8 ? 255 : 0);
-            z.poke(13, i, v);
-            model.poke(13, i, v);
+        onesAtEachPlace();
+        asManySyncsAsCanBe();
+    }
+
+    private static void onesAtEachPlace() {
+        BitDrive x = new BitDrive();
+        x.stamp(13, 0, 0xFF800000);
+        x.stamp(14, 0, 0xFFC00000);
+        x.stamp(15, 0, 0xFF7F8000);
+        for (int n = 0; n < 8 * 830; n++) {
+            Check.due("nine ones", x.syncs(13), 0);
+            Check.due("ten ones", x.syncs(14), 1);
+            Check.due("eight and eight ones", x.syncs(15), 0);
+            x.turn(13, 1);
+            x.turn(14, 1);
+            x.turn(15, 1);
         }
-        Check.due("as many as can be", z.syncs(13), model.syncs(13));
+    }
+
+    private static void asManySyncsAsCanBe() {
+        for (int t : new int[] {1, 9, 13}) {
+            BitDrive x = new BitDrive();
+            int bits = 8 * (t == 1 ? 1060 : t == 9 ? 940 : 830);
+            for (int i = 0; i < bits / 8; i++) {
+                int v = 0;
+                for (int k = 8 * i; k < 8 * i + 8; k++) {
+                    v = 2 * v + (k % 11 == 10 ? 0 : 1);
+                }
+                x.poke(t, i, v);
+            }
+            Check.due("syncs", x.syncs(t), bits / 11);
+            x.mount(0);
+            Check.due("read", x.read(t, 0), 20);
+        }
     }
 
     private static void promise18Read() {
