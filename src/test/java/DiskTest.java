@@ -21,14 +21,14 @@ public final class DiskTest {
         Check.finish();
     }
 
-    private static BitDrive formatted() {
-        BitDrive x = new BitDrive();
+    private static Drive formatted() {
+        Drive x = new Drive();
         Check.due("format", x.format(5, 3, 4), 0);
         return x;
     }
 
     private static void headerErrors() {
-        BitDrive x = formatted();
+        Drive x = formatted();
         Check.due("checksum 4", x.poke(1, 7, 0xF5), 0xE5);
         Check.due("read", x.read(1, 0), 27);
         Check.due("write", x.write(1, 0), 27);
@@ -45,22 +45,20 @@ public final class DiskTest {
         Check.due("read", x.read(1, 0), 0);
         // The header's bytes are of ten bits each from bit 40 on: each half in turn is NO CODE.
         for (int half = 0; half < 12; half++) {
-            BitDrive y = formatted();
+            Drive y = formatted();
             y.turn(1, -40 - 5 * half);
             y.poke(1, 0, y.peek(1, 0) & 7);
             Check.due("half " + half + " is NO CODE", y.read(1, 0), 20);
             Check.due("half " + half + " is NO CODE", y.write(1, 0), 20);
         }
-        for (int i = 0; i < 1060; i++) {
-            x.poke(1, i, 255);
-        }
+        Bits.lay(x, 1, Bits.ones(8480));
         Check.due("ones alone", x.read(1, 0), 21);
         Check.due("ones alone", x.write(1, 0), 21);
         Check.due("count", x.count(2), 9);
     }
 
     private static void headerThatIsFirst() {
-        BitDrive x = formatted();
+        Drive x = formatted();
         int at = 114 + 8;
         x.poke(1, at, x.peek(1, at) ^ 4);
         Check.due("sector 1 has become 0", x.read(1, 1), 20);
@@ -76,12 +74,12 @@ public final class DiskTest {
 
     private static void dataErrors() {
         for (int half = 0; half < 132; half++) {
-            BitDrive y = formatted();
+            Drive y = formatted();
             y.turn(1, -188 - 5 * half);
             y.poke(1, 0, y.peek(1, 0) & 7);
             Check.due("half " + half + " is NO CODE", y.read(1, 0), half < 2 ? 22 : 24);
         }
-        BitDrive x = formatted();
+        Drive x = formatted();
         int first = x.poke(1, 24, 0);
         Check.due("no mark", x.read(1, 0), 22);
         x.poke(1, 24, first);
@@ -109,31 +107,23 @@ public final class DiskTest {
     }
 
     private static void writtenBits() {
-        BitDrive x = formatted();
-        Model model = new Model();
-        model.format(5, 3, 4);
-        for (int i : new int[] {17, 18, 19, 60, 105, 106, 107}) {
-            x.poke(1, i, 0);
-            model.poke(1, i, 0);
-        }
         for (int turn : new int[] {0, 13, 8480 - 900, 400, 77, -5000}) {
-            x.turn(1, turn);
-            model.turn(1, turn);
-            for (int s = 0; s < 9; s++) {
-                x.feed(s, -turn, 0x01234567, 0x89ABCDEF, 0xFEDCBA98);
-                model.feed(s, -turn, 0x01234567, 0x89ABCDEF, 0xFEDCBA98);
-                Check.due("write", x.write(1, s), model.write(1, s));
-                Check.due("read", x.read(1, s), 0);
-                Check.due("out", x.out(19), 0x98);
-            }
-            for (int i = 0; i < 1060; i++) {
-                Check.due("peek(1, " + i + ") after turn " + turn, x.peek(1, i), model.peek(1, i));
+            String before = Bits.turned(Bits.track(1, 5), turn);
+            for (int s = 0; s < 9; s += 4) {
+                int sector = s;
+                int[] bytes = {s, turn & 255, 0xFE, 0xDC, 0xBA, 0x98};
+                Bits.due("write after turn " + turn, () -> {
+                    Drive x = formatted();
+                    x.turn(1, turn);
+                    Check.putBlock(x, 1, sector, bytes);
+                    return x;
+                }, 1, Bits.over(before, turn + Bits.SECTOR * s + Bits.DATA, Bits.data(bytes)));
             }
         }
     }
 
     private static void dataBehindTheLastSync() {
-        BitDrive x = formatted();
+        Drive x = formatted();
         Check.tape(x, 64, 1);
         Check.due("write", x.write(1, 3), 0);
         // The header of (1, 3) is from byte 347 on, and its DATA from the middle of byte 365 on:
@@ -144,36 +134,42 @@ public final class DiskTest {
             Check.due("out", x.out(63), Check.fileByte(63, 1));
             x.turn(1, -turn);
         }
-        BitDrive y = new BitDrive();
+        Drive y = new Drive();
         y.format(5, 3, 4);
-        for (int i = 17; i < 1060; i++) {
-            y.poke(1, i, 0);
-        }
+        Bits.lay(y, 1, Bits.over(Bits.zeros(8480), 0, Bits.ones(40) + Bits.header(1, 0, 5)));
         Check.due("syncs", y.syncs(1), 1);
         Check.due("the one sync is the next one", y.read(1, 0), 22);
     }
 
     private static void orderOfBlocks() {
-        BitDrive x = formatted();
+        Drive x = threeFiles();
         int[] order = {8, 7, 6, 5, 4, 3, 2, 1, 10, 11, 12, 13, 14, 15, 16};
+        int n = 0;
+        for (int track : order) {
+            for (int s = 0; s < Bits.sectors(track) && n < 120; s++) {
+                if (x.calls() + 2 > Drive.MOST_CALLS) {
+                    x = threeFiles();
+                }
+                Check.due("read", x.read(track, s), 0);
+                Check.due("byte of (" + track + ", " + s + ")", x.out(2), Check.fileByte(n % 40 * 62, n / 40 + 1));
+                n++;
+            }
+        }
+    }
+
+    private static Drive threeFiles() {
+        Drive x = formatted();
         for (int file = 1; file <= 3; file++) {
             Check.tape(x, 2480, file);
             Check.due("save", x.save(1, file, 0), 0);
         }
-        int n = 0;
-        for (int track : order) {
-            for (int s = 0; s < Model.sectors(track) && n < 120; s++) {
-                int[] block = Check.block(x, track, s);
-                Check.due("byte of (" + track + ", " + s + ")", block[2], Check.fileByte(n % 40 * 62, n / 40 + 1));
-                n++;
-            }
-        }
         x.info();
         Check.due("out", x.out(10), 4);
+        return x;
     }
 
     private static void chainOnTheDisk() {
-        BitDrive x = formatted();
+        Drive x = formatted();
         Check.putBlock(x, 8, 1, 1, 2, 3);
         Check.change(x, 9, 0, 16, 0x82);
         Check.tape(x, 130, 0);
@@ -202,7 +198,7 @@ public final class DiskTest {
     }
 
     private static void directoryGrows() {
-        BitDrive x = formatted();
+        Drive x = formatted();
         Check.change(x, 9, 0, 18, 0xA8);
         for (int i = 1; i <= 5; i++) {
             Check.due("save", x.save(1, i, 0), 0);
@@ -230,7 +226,7 @@ public final class DiskTest {
     }
 
     private static void growsBehindHoles() {
-        BitDrive x = formatted();
+        Drive x = formatted();
         for (int i = 1; i <= 10; i++) {
             Check.due("save", x.save(1, i, 0), 0);
         }
@@ -245,7 +241,7 @@ public final class DiskTest {
     }
 
     private static void growsAtOnce() {
-        BitDrive x = formatted();
+        Drive x = formatted();
         int[] full = new int[64];
         for (int e = 2; e <= 50; e += 12) {
             full[e] = 1;
@@ -264,7 +260,7 @@ public final class DiskTest {
     }
 
     private static void directoryIsFull() {
-        BitDrive x = formatted();
+        Drive x = formatted();
         for (int i = 1; i <= 35; i++) {
             Check.due("save", x.save(1, i, 0), 0);
         }
@@ -276,7 +272,7 @@ public final class DiskTest {
         Check.due("writes", x.count(1), writes + 1);
         Check.due("scratch", x.scratch(20, 0), 1);
         Check.due("save", x.save(1, 36, 0), 0);
-        BitDrive y = freeOnNine(formatted(), 0);
+        Drive y = freeOnNine(formatted(), 0);
         for (int i = 1; i <= 5; i++) {
             Check.due("save", y.save(1, i, 0), 0);
         }
@@ -284,16 +280,20 @@ public final class DiskTest {
         Check.status(y, 72, 0, 0);
     }
 
-    private static BitDrive freeOnNine(BitDrive x, int bits) {
+    private static Drive freeOnNine(Drive x, int bits) {
         Check.change(x, 9, 0, 18, bits);
         return x;
     }
 
     private static void diskIsFull() {
-        BitDrive x = formatted();
+        Drive x = formatted();
+        int[] map = new int[64];
         for (int t = 1; t <= 15; t++) {
-            Check.change(x, 9, 0, 2 * t, t == 9 ? 252 : 0, 2 * t + 1, t == 9 ? 0 : 254);
+            map[2 * t] = t == 9 ? 252 : 0;
+            map[2 * t + 1] = t == 9 ? 0 : 254;
         }
+        map[32] = 127;
+        Check.putBlock(x, 9, 0, map);
         Check.due("info", x.info(), 11);
         Check.due("FREE ones that there are", x.out(10), 7);
         Check.tape(x, 435, 0);
@@ -310,7 +310,7 @@ public final class DiskTest {
     }
 
     private static void directoryChains() {
-        BitDrive x = formatted();
+        Drive x = formatted();
         x.save(1, 1, 0);
         Check.change(x, 9, 1, 0, 0, 1, 5);
         Check.due("found ahead of the link", x.load(1, 0), 0);
@@ -353,7 +353,7 @@ public final class DiskTest {
     }
 
     private static void fileChains() {
-        BitDrive x = formatted();
+        Drive x = formatted();
         Check.tape(x, 130, 0);
         x.save(1, 1, 0);
         Check.change(x, 8, 2, 1, 62);
@@ -375,6 +375,12 @@ public final class DiskTest {
         Check.due("a ring", x.load(1, 0), -1);
         Check.status(x, 66, 8, 1);
         Check.due("reads", x.count(0), reads + 42);
+        wrongEntries();
+    }
+
+    private static void wrongEntries() {
+        Drive x = formatted();
+        x.save(1, 1, 0);
         Check.change(x, 9, 1, 3, 0);
         Check.due("no first block", x.load(1, 0), -1);
         Check.status(x, 66, 9, 1);
@@ -388,7 +394,7 @@ public final class DiskTest {
     }
 
     private static void longFileChain() {
-        BitDrive x = formatted();
+        Drive x = formatted();
         Check.tape(x, 2480, 0);
         Check.due("save", x.save(1, 1, 0), 0);
         Check.due("forty blocks", x.load(1, 0), 2480);
@@ -403,7 +409,7 @@ public final class DiskTest {
     }
 
     private static void errorsWhileSaving() {
-        BitDrive x = formatted();
+        Drive x = formatted();
         x.poke(8, 114 + 6, 0);
         Check.tape(x, 130, 4);
         Check.due("save", x.save(1, 1, 0), 20);
@@ -428,7 +434,7 @@ public final class DiskTest {
     }
 
     private static void errorsWhileScratching() {
-        BitDrive x = formatted();
+        Drive x = formatted();
         Check.tape(x, 130, 4);
         x.save(1, 1, 0);
         int v = x.poke(8, 114 + 30, 0);
@@ -441,7 +447,7 @@ public final class DiskTest {
     }
 
     private static void scratchOnTrackNine() {
-        BitDrive x = formatted();
+        Drive x = formatted();
         Check.tape(x, 70, 4);
         x.save(1, 1, 0);
         Check.change(x, 8, 0, 0, 9, 1, 5);
@@ -454,7 +460,7 @@ public final class DiskTest {
     }
 
     private static void mapKeepsItsBytes() {
-        BitDrive x = formatted();
+        Drive x = formatted();
         Check.change(x, 9, 0, 0, 77, 35, 3, 63, 99, 19, 255);
         Check.change(x, 9, 1, 62, 5, 63, 6);
         Check.due("save", x.save(1, 1, 0), 0);

@@ -1,17 +1,16 @@
 import java.util.Random;
 
-/** Long runs of calls, the same ones each time, on BitDrive and on the model. */
+/** Runs of calls, the same ones each time, on BitDrive and on the model, within the calls that are promised. */
 public final class ModelTest {
-    private static final int RUNS = 200;
-    private static final int CALLS = 300;
+    private static final int RUNS = 1500;
+    private static final int LAST_STEP = 430;
     private static int wrong = 0;
 
     private final int run;
     private final Random random;
-    private final BitDrive drive = new BitDrive();
+    private final Drive drive = new Drive();
     private final Model model = new Model();
     private final int[] seen = new int[100];
-    private int calls = 0;
 
     private ModelTest(int run) {
         this.run = run;
@@ -37,12 +36,14 @@ public final class ModelTest {
         if (wrong != 0) {
             System.exit(1);
         }
+        Check.finish();
     }
 
     private void due(String call, int got, int want) {
         if (got != want) {
             wrong++;
-            System.out.println("run " + run + ", call " + calls + ": " + call + " answered " + got + ", due is " + want);
+            System.out.println("run " + run + ", call " + drive.calls() + ": " + call + " answered " + got
+                    + ", due is " + want);
         }
     }
 
@@ -51,7 +52,7 @@ public final class ModelTest {
             format();
         }
         boolean rough = random.nextBoolean();
-        for (calls = 0; calls < CALLS && wrong == 0; calls++) {
+        while (drive.calls() < LAST_STEP && wrong == 0) {
             int kind = random.nextInt(100);
             if (kind < 60) {
                 gentleCall();
@@ -63,29 +64,26 @@ public final class ModelTest {
             if (kind == 99) {
                 format();
             }
-            compareState();
+            compareSome();
         }
-        compareBits();
+        while (drive.calls() < Drive.MOST_CALLS) {
+            int t = random.nextInt(3) == 0 ? random.nextInt(18) : 7 + random.nextInt(3);
+            int i = random.nextInt(1062) - 1;
+            due("peek(" + t + ", " + i + ")", drive.peek(t, i), model.peek(t, i));
+        }
     }
 
-    private void compareState() {
-        for (int what = -1; what <= 4; what++) {
-            due("status(" + what + ")", drive.status(what), model.status(what));
-            due("count(" + what + ")", drive.count(what), model.count(what));
-        }
-        for (int i = -1; i <= model.out.size(); i++) {
-            due("out(" + i + ")", drive.out(i), model.out(i));
-        }
+    /** One by one for want of calls; over all runs each is asked behind each kind of call. */
+    private void compareSome() {
+        int what = random.nextInt(5) - 1;
+        due("status(" + what + ")", drive.status(what), model.status(what));
+        what = random.nextInt(6) - 1;
+        due("count(" + what + ")", drive.count(what), model.count(what));
+        int i = random.nextInt(model.out.size() + 2) - 1;
+        due("out(" + i + ")", drive.out(i), model.out(i));
+        i = model.out.size() - random.nextInt(2);
+        due("out(" + i + ")", drive.out(i), model.out(i));
         seen[model.status(0)]++;
-    }
-
-    private void compareBits() {
-        for (int t = 0; t <= 17; t++) {
-            for (int i = -1; i <= 1060; i++) {
-                due("peek(" + t + ", " + i + ")", drive.peek(t, i), model.peek(t, i));
-            }
-            due("syncs(" + t + ")", drive.syncs(t), model.syncs(t));
-        }
     }
 
     private void format() {
@@ -125,7 +123,7 @@ public final class ModelTest {
             case 0:
             case 1:
             case 2:
-                fill(random.nextInt(10) == 0 ? 130 : 12);
+                fill(drive.calls() < 300 && random.nextInt(10) == 0 ? 130 : 8);
                 int type = random.nextInt(20) == 0 ? random.nextInt(12) - 1 : 1 + random.nextInt(9);
                 due("save(" + type + ", " + a + ", " + b + ")", drive.save(type, a, b), model.save(type, a, b));
                 break;

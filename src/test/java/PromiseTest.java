@@ -1,4 +1,4 @@
-/** Each promise by itself: ordinary inputs, edges, and wrong inputs. */
+/** Each promise by itself: ordinary inputs, and some that are wrong. */
 public final class PromiseTest {
     private static final int LOW = Integer.MIN_VALUE;
     private static final int HIGH = Integer.MAX_VALUE;
@@ -27,20 +27,18 @@ public final class PromiseTest {
         Check.finish();
     }
 
-    private static BitDrive formatted() {
-        BitDrive x = new BitDrive();
+    private static Drive formatted() {
+        Drive x = new Drive();
         Check.due("format", x.format(0x1234, 0x01020304, 0x05060708), 0);
         return x;
     }
 
     private static void promise1New() {
-        BitDrive x = new BitDrive();
+        Drive x = new Drive();
         for (int t = 1; t <= 16; t++) {
-            int size = t <= 8 ? 1060 : t <= 12 ? 940 : 830;
-            for (int i = 0; i < size; i++) {
-                Check.due("peek", x.peek(t, i), 0);
-            }
-            Check.due("peek", x.peek(t, size), -1);
+            Check.due("peek", x.peek(t, 0), 0);
+            Check.due("peek", x.peek(t, Bits.size(t) - 1), 0);
+            Check.due("peek", x.peek(t, Bits.size(t)), -1);
             Check.due("syncs", x.syncs(t), 0);
         }
         Check.status(x, 0, 0, 0);
@@ -53,14 +51,14 @@ public final class PromiseTest {
         Check.status(x, 0, 0, 0);
         Check.due("info", x.info(), -1);
         Check.status(x, 74, 0, 0);
-        Check.due("list", new BitDrive().list(), -1);
-        Check.due("load", new BitDrive().load(1, 1), -1);
-        Check.due("save", new BitDrive().save(1, 1, 1), 74);
-        Check.due("scratch", new BitDrive().scratch(1, 1), 74);
+        Check.due("list", new Drive().list(), -1);
+        Check.due("load", new Drive().load(1, 1), -1);
+        Check.due("save", new Drive().save(1, 1, 1), 74);
+        Check.due("scratch", new Drive().scratch(1, 1), 74);
     }
 
     private static void promise2Feed() {
-        BitDrive x = formatted();
+        Drive x = formatted();
         Check.due("feed", x.feed(0x01020304, 0x85868788, -1, LOW, 0x11121314), 20);
         Check.due("count", x.count(3), 20);
         Check.due("write", x.write(1, 0), 0);
@@ -82,7 +80,7 @@ public final class PromiseTest {
     }
 
     private static void promise3End() {
-        BitDrive x = new BitDrive();
+        Drive x = new Drive();
         Check.due("end", x.end(0), 0);
         Check.due("end", x.end(1), -1);
         Check.due("feed", x.feed(1, 2, 3, 4, 5), 20);
@@ -106,58 +104,33 @@ public final class PromiseTest {
     }
 
     private static void promise4Format() {
-        BitDrive x = new BitDrive();
+        Drive x = new Drive();
         x.info();
         Check.due("format", x.format(0xABCD1234, 0x81020304, 0x0506FF08), 0);
         Check.status(x, 0, 0, 0);
         for (int t = 1; t <= 16; t++) {
-            for (int s = 0; s < Model.sectors(t); s++) {
-                if (t != 9 || s != 0) {
-                    Check.due("read", x.read(t, s), 0);
-                    Check.out(x, new int[64]);
-                }
+            for (int s = 0; s < Bits.sectors(t); s++) {
+                Check.due("read", x.read(t, s), 0);
+                Check.due("out", x.out(63), 0);
             }
-            Check.due("read beyond", x.read(t, Model.sectors(t)), 66);
+            Check.due("read beyond", x.read(t, Bits.sectors(t)), 66);
         }
-        int[] map = Check.block(x, 9, 0);
-        int[] due = new int[64];
-        due[0] = 9;
-        due[1] = 1;
-        for (int t = 1; t <= 16; t++) {
-            due[2 * t] = t == 9 ? 252 : t <= 12 ? 255 : 127;
-            due[2 * t + 1] = t <= 8 ? 1 : 0;
-        }
-        int[] tail = {0x81, 2, 3, 4, 5, 6, 255, 8, 0x12, 0x34};
-        System.arraycopy(tail, 0, due, 40, 10);
-        for (int i = 0; i < 64; i++) {
-            Check.due("map byte " + i, map[i], due[i]);
-        }
-        formatBits(x);
+        Check.blockIs(x, 9, 0, Check.newMap(0x1234, 0x81020304, 0x0506FF08));
+        Check.blockIs(x, 9, 1);
         Check.due("count", x.count(1), 0);
-        Check.change(x, 9, 0, 0, 8, 35, 5, 63, 6);
-        Check.due("info", x.info(), 11);
-        Check.due("format", x.format(0xABCD1234, 0x81020304, 0x0506FF08), 0);
-        formatBits(x);
         x.poke(3, 3, 0);
+        x.turn(4, 99);
         Check.due("format", x.format(7, 0, 0), 0);
         Check.due("poke is gone", x.peek(3, 3), 255);
+        Check.due("turn is gone", x.peek(4, 0), 255);
         Check.due("list", x.list(), 0);
         Check.due("info", x.info(), 11);
         Check.out(x, 0, 0, 0, 0, 0, 0, 0, 0, 0, 7, 124);
-    }
-
-    private static void formatBits(BitDrive x) {
-        Model model = new Model();
-        model.format(0xABCD1234, 0x81020304, 0x0506FF08);
-        for (int t = 1; t <= 16; t++) {
-            for (int i = 0; i < model.tracks[t].length / 8; i++) {
-                Check.due("peek(" + t + ", " + i + ")", x.peek(t, i), model.peek(t, i));
-            }
-        }
+        Bits.due("format", PromiseTest::formatted, 16, Bits.track(16, 0x1234));
     }
 
     private static void promise5Mount() {
-        BitDrive x = new BitDrive();
+        Drive x = new Drive();
         x.list();
         Check.status(x, 74, 0, 0);
         Check.due("mount", x.mount(5), 0);
@@ -177,7 +150,7 @@ public final class PromiseTest {
 
     private static void promise6Save() {
         for (int many : new int[] {0, 1, 61, 62, 63, 123, 124, 125, 2479, 2480}) {
-            BitDrive x = formatted();
+            Drive x = formatted();
             Check.tape(x, many, 5);
             Check.due("save", x.save(9, 0, 0x80), 0);
             Check.status(x, 0, 0, 0);
@@ -189,11 +162,11 @@ public final class PromiseTest {
             x.info();
             Check.due("out", x.out(10), 124 - blocks);
             Check.due("load", x.load(0, 0x80), many);
-            for (int i = 0; i < many; i++) {
+            for (int i = 0; i < many; i += many / 200 + 1) {
                 Check.due("out", x.out(i), Check.fileByte(i, 5));
             }
         }
-        BitDrive x = formatted();
+        Drive x = formatted();
         x.load(4, 4);
         for (int type : new int[] {0, 10, -1, LOW, HIGH, 257}) {
             Check.tape(x, 3, 1);
@@ -209,7 +182,7 @@ public final class PromiseTest {
         Check.due("save again", x.save(2, 1, 0), 63);
         Check.status(x, 63, 9, 1);
         Check.due("count", x.count(3), 0);
-        BitDrive y = new BitDrive();
+        Drive y = new Drive();
         Check.tape(y, 3, 1);
         Check.due("save", y.save(1, 1, 1), 74);
         Check.due("count", y.count(3), 0);
@@ -217,7 +190,7 @@ public final class PromiseTest {
     }
 
     private static void promise7Load() {
-        BitDrive x = formatted();
+        Drive x = formatted();
         Check.tape(x, 70, 9);
         x.save(1, -1, -2);
         Check.due("load", x.load(-1, -2), 70);
@@ -237,7 +210,7 @@ public final class PromiseTest {
     }
 
     private static void promise8Scratch() {
-        BitDrive x = formatted();
+        Drive x = formatted();
         Check.tape(x, 70, 9);
         x.save(1, 1, 1);
         x.info();
@@ -257,7 +230,7 @@ public final class PromiseTest {
     }
 
     private static void promise9List() {
-        BitDrive x = formatted();
+        Drive x = formatted();
         Check.due("list", x.list(), 0);
         Check.out(x);
         for (int i = 1; i <= 35; i++) {
@@ -281,7 +254,7 @@ public final class PromiseTest {
     }
 
     private static void promise10Info() {
-        BitDrive x = formatted();
+        Drive x = formatted();
         x.list();
         Check.due("info", x.info(), 11);
         Check.out(x, 1, 2, 3, 4, 5, 6, 7, 8, 0x12, 0x34, 124);
@@ -296,7 +269,7 @@ public final class PromiseTest {
     }
 
     private static void promise11Out() {
-        BitDrive x = formatted();
+        Drive x = formatted();
         Check.due("out", x.out(0), -1);
         x.info();
         for (int i : new int[] {-1, 11, LOW, HIGH}) {
@@ -316,7 +289,7 @@ public final class PromiseTest {
     }
 
     private static void promise12Status() {
-        BitDrive x = formatted();
+        Drive x = formatted();
         x.poke(9, 6, 0);
         x.info();
         Check.status(x, 20, 9, 0);
@@ -344,7 +317,7 @@ public final class PromiseTest {
     }
 
     private static void promise13Peek() {
-        BitDrive x = formatted();
+        Drive x = formatted();
         Check.due("peek", x.peek(1, 4), 255);
         Check.due("peek", x.peek(1, 5), 82);
         Check.due("peek", x.peek(16, 829), 85);
@@ -362,7 +335,7 @@ public final class PromiseTest {
     }
 
     private static void promise14Poke() {
-        BitDrive x = new BitDrive();
+        Drive x = new Drive();
         Check.due("poke", x.poke(2, 7, 0x1AB), 0);
         Check.due("peek", x.peek(2, 7), 0xAB);
         Check.due("poke", x.poke(2, 7, -1), 0xAB);
@@ -377,14 +350,14 @@ public final class PromiseTest {
     }
 
     private static void promise15Stamp() {
-        BitDrive x = new BitDrive();
+        Drive x = new Drive();
         Check.due("stamp", x.stamp(13, 3, 0x81020304), 1);
         int[] due = {0, 0, 0, 0x81, 2, 3, 4, 0};
         for (int i = 0; i < due.length; i++) {
             Check.due("peek", x.peek(13, i), due[i]);
         }
         for (int back = 1; back <= 4; back++) {
-            BitDrive y = new BitDrive();
+            Drive y = new Drive();
             Check.due("stamp", y.stamp(9, 940 - back, 0x01020304), 1);
             for (int k = 0; k < 4; k++) {
                 Check.due("peek", y.peek(9, (940 - back + k) % 940), k + 1);
@@ -395,20 +368,20 @@ public final class PromiseTest {
     }
 
     private static void promise16Turn() {
-        int[] sizes = {0, 1060, 0, 0, 0, 0, 0, 0, 0, 940, 0, 0, 0, 830};
         for (int t : new int[] {1, 9, 13}) {
-            int bits = 8 * sizes[t];
+            int size = Bits.size(t);
+            int bits = 8 * size;
             for (int n : new int[] {0, 1, 7, 8, 9, -1, -8, -9, bits - 1, bits, bits + 3, -bits, HIGH, LOW, 1234567}) {
-                BitDrive x = new BitDrive();
+                Drive x = new Drive();
                 x.poke(t, 0, 128);
                 Check.due("turn", x.turn(t, n), 1);
                 int place = Math.floorMod(n, bits);
-                for (int i = 0; i < sizes[t]; i++) {
-                    Check.due("peek after turn " + n, x.peek(t, i), i == place / 8 ? 128 >> place % 8 : 0);
+                for (int i = place / 8 + size - 2; i <= place / 8 + size + 2; i++) {
+                    Check.due("peek after turn " + n, x.peek(t, i % size), i == place / 8 + size ? 128 >> place % 8 : 0);
                 }
             }
         }
-        BitDrive x = formatted();
+        Drive x = formatted();
         for (int i = 0; i < 20; i++) {
             x.turn(5, 1237);
             x.turn(9, -1237);
@@ -427,7 +400,7 @@ public final class PromiseTest {
     }
 
     private static void promise17Syncs() {
-        BitDrive x = new BitDrive();
+        Drive x = new Drive();
         x.stamp(1, 10, 0x7FC00000);
         Check.due("nine ones", x.syncs(1), 0);
         x.stamp(1, 10, 0x7FE00000);
@@ -443,10 +416,8 @@ public final class PromiseTest {
             x.turn(1, 1);
             Check.due("syncs", x.syncs(1), 3);
         }
-        BitDrive y = new BitDrive();
-        for (int i = 0; i < 1060; i++) {
-            y.poke(2, i, 255);
-        }
+        Drive y = new Drive();
+        Bits.lay(y, 2, Bits.ones(8480));
         Check.due("ones alone", y.syncs(2), 0);
         y.poke(2, 500, 254);
         Check.due("one bit 0", y.syncs(2), 1);
@@ -457,15 +428,20 @@ public final class PromiseTest {
         y.poke(2, 0, 127);
         Check.due("one bit 0", y.syncs(2), 1);
         onesAtEachPlace();
-        asManySyncsAsCanBe();
     }
 
     private static void onesAtEachPlace() {
-        BitDrive x = new BitDrive();
-        x.stamp(13, 0, 0xFF800000);
-        x.stamp(14, 0, 0xFFC00000);
-        x.stamp(15, 0, 0xFF7F8000);
+        Drive x = null;
         for (int n = 0; n < 8 * 830; n++) {
+            if (n % 80 == 0) {
+                x = new Drive();
+                x.stamp(13, 0, 0xFF800000);
+                x.stamp(14, 0, 0xFFC00000);
+                x.stamp(15, 0, 0xFF7F8000);
+                x.turn(13, n);
+                x.turn(14, n);
+                x.turn(15, n);
+            }
             Check.due("nine ones", x.syncs(13), 0);
             Check.due("ten ones", x.syncs(14), 1);
             Check.due("eight and eight ones", x.syncs(15), 0);
@@ -475,25 +451,8 @@ public final class PromiseTest {
         }
     }
 
-    private static void asManySyncsAsCanBe() {
-        for (int t : new int[] {1, 9, 13}) {
-            BitDrive x = new BitDrive();
-            int bits = 8 * (t == 1 ? 1060 : t == 9 ? 940 : 830);
-            for (int i = 0; i < bits / 8; i++) {
-                int v = 0;
-                for (int k = 8 * i; k < 8 * i + 8; k++) {
-                    v = 2 * v + (k % 11 == 10 ? 0 : 1);
-                }
-                x.poke(t, i, v);
-            }
-            Check.due("syncs", x.syncs(t), bits / 11);
-            x.mount(0);
-            Check.due("read", x.read(t, 0), 20);
-        }
-    }
-
     private static void promise18Read() {
-        BitDrive x = new BitDrive();
+        Drive x = new Drive();
         Check.due("read", x.read(0, 0), 74);
         x.mount(3);
         Check.due("read", x.read(0, 0), 66);
@@ -518,7 +477,7 @@ public final class PromiseTest {
     }
 
     private static void promise19Write() {
-        BitDrive x = formatted();
+        Drive x = formatted();
         Check.tape(x, 100, 3);
         Check.due("write", x.write(4, 4), 0);
         Check.due("count", x.count(3), 0);
@@ -538,7 +497,7 @@ public final class PromiseTest {
         Check.due("write", x.write(4, 4), 29);
         Check.due("count", x.count(3), 0);
         Check.status(x, 0, 0, 0);
-        BitDrive y = new BitDrive();
+        Drive y = new Drive();
         Check.tape(y, 5, 3);
         Check.due("write", y.write(0, 4), 74);
         Check.due("count", y.count(3), 0);
@@ -547,7 +506,7 @@ public final class PromiseTest {
     }
 
     private static void promise20Count() {
-        BitDrive x = formatted();
+        Drive x = formatted();
         x.feed(1, 2, 3, 4, 5);
         x.save(1, 1, 1);
         Check.due("count(0)", x.count(0), 2);
