@@ -25,6 +25,7 @@ public final class DiskEdgesTest {
         firstEmptyEntryCounts();
         directoryGrowsByTheLeast();
         directoryHasNoRoom();
+        asManyBlocksAsAreNeeded();
         blocksAreTakenInOrder();
         diskHasNoRoom();
         noRoomChangesNothing();
@@ -442,6 +443,24 @@ public final class DiskEdgesTest {
         Check.putBlock(y, 9, 7, fullBlock(0, 0, 70));
         Check.due("seven blocks", y.save(3, name(99), 0), 72);
         Check.status(y, 72, 0, 0);
+    }
+
+    private static void asManyBlocksAsAreNeeded() {
+        Check.says("As many blocks as are needed (62 bytes each, 1 for none)");
+        int[][] sizes = {{0, 1}, {1, 1}, {61, 1}, {62, 1}, {63, 2}, {123, 2}, {124, 2}, {125, 3}, {2418, 39}, {2419, 40},
+            {2480, 40}};
+        for (int[] size : sizes) {
+            Drive x = formatted();
+            Check.tape(x, size[0], 1);
+            Check.due("save", x.save(1, 1, 1), 0);
+            Check.due("blocks written, with the entry's and the map", x.count(1), size[1] + 2);
+            Check.due("list", x.list(), 10);
+            Check.due("blocks of " + size[0] + " bytes", x.out(1), size[1]);
+            Check.due("info", x.info(), 11);
+            Check.due("FREE ones", x.out(10), 124 - size[1]);
+            Check.due("scratch", x.scratch(1, 1), 1);
+            Check.status(x, 1, size[1], 0);
+        }
     }
 
     private static void blocksAreTakenInOrder() {
