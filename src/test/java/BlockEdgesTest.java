@@ -8,6 +8,7 @@ public final class BlockEdgesTest {
     public static void main(String[] args) {
         noSync();
         noHeader();
+        headerBehindNoSync();
         headerWithoutCode();
         headerOfAnotherBlock();
         firstHeaderCounts();
@@ -83,6 +84,17 @@ public final class BlockEdgesTest {
         Check.due("read", x.read(3, 8), 0);
         for (int s = 1; s < 8; s++) {
             both(x, "sector " + s, 3, s, 20);
+        }
+    }
+
+    private static void headerBehindNoSync() {
+        Check.says("A HEADER is what is coded behind a sync");
+        for (int at : new int[] {0, 1, 8, 500, RING - 1}) {
+            for (int ones = 0; ones <= 10; ones++) {
+                String ring = ring(at - ones, Bits.ones(ones) + Bits.header(3, 1, ID) + Bits.gap(6) + Bits.ones(40)
+                        + Bits.data(5) + Bits.gap(1));
+                both(laid(ring), ones + " ones ahead of a header at " + at, 3, 1, ones < 10 ? 20 : 0);
+            }
         }
     }
 
